@@ -138,6 +138,8 @@ public final class PromiseTest {
         due("4 again", x.begin(0), -1);
         due("4 game before side", x.begin(2), -1);
         due("4 turn", x.turn(), 1);
+        due("4 side 0 in check", with(0, 6, 35, 14, 3, 12).begin(1), -4);
+        due("4 side 0 in check and to move", with(0, 6, 35, 14, 3, 12).begin(0), 2);
         due("4 kings next to each other", with(0, 6, 7, 14).begin(0), -4);
         due("4 no legal move", with(0, 14, 8, 5, 14, 6).begin(1), 0);
     }
@@ -641,6 +643,8 @@ public final class PromiseTest {
         due("18 does not see the mate", x.best(1), 64 * 13 + 8);
         due("18 sees the mate", x.best(2), 64 * 16 + 4);
         boardIs("18 board", x, 0, 14, 13, 6, 16, 4);
+        x.move(16, 4);
+        due("18 mated after an earlier best", x.best(2), -3);
         // The knight on 14 is guarded by the pawn on 19.
         x = game(0, 9, 0, 6, 35, 14, 16, 4, 14, 10, 19, 9);
         due("18 takes what is guarded", x.best(1), 64 * 16 + 14);
