@@ -1,50 +1,5 @@
 /** For each promise of the document: ordinary inputs, the edges it names, and wrong inputs. */
-public final class PromiseTest {
-    private static final int[] WRONG_SQUARES = {-1, 36, 64, Integer.MIN_VALUE, Integer.MAX_VALUE};
-    private static final int[] WRONG_SIDES = {-1, 2, 8, Integer.MIN_VALUE, Integer.MAX_VALUE};
-    private static final int[] WRONG_PIECES = {-1, 7, 8, 15, 16, 22, -8, Integer.MIN_VALUE, Integer.MAX_VALUE};
-
-    private static int wrong = 0;
-
-    private static void due(String what, int got, int want) {
-        if (got != want) {
-            wrong++;
-            System.out.println(what + " answered " + got + ", due is " + want);
-        }
-    }
-
-    /** A board with the given squares and pieces, by turns. */
-    private static SmallBoard with(int... squaresAndPieces) {
-        SmallBoard x = new SmallBoard();
-        for (int i = 0; i < squaresAndPieces.length; i += 2) {
-            due("with: put(" + squaresAndPieces[i] + ")", x.put(squaresAndPieces[i], squaresAndPieces[i + 1]), 0);
-        }
-        return x;
-    }
-
-    private static SmallBoard game(int side, int legal, int... squaresAndPieces) {
-        SmallBoard x = with(squaresAndPieces);
-        due("game: begin", x.begin(side), legal);
-        return x;
-    }
-
-    private static void boardIs(String what, SmallBoard x, int... squaresAndPieces) {
-        int[] want = new int[36];
-        for (int i = 0; i < squaresAndPieces.length; i += 2) {
-            want[squaresAndPieces[i]] = squaresAndPieces[i + 1];
-        }
-        for (int square = 0; square < 36; square++) {
-            due(what + ": pieceAt(" + square + ")", x.pieceAt(square), want[square]);
-        }
-    }
-
-    private static void play(String what, SmallBoard x, int... fromsAndTos) {
-        for (int i = 0; i < fromsAndTos.length; i += 2) {
-            due(what + ": result before move " + i / 2, x.result(), 0);
-            due(what + ": move " + i / 2, x.move(fromsAndTos[i], fromsAndTos[i + 1]), 0);
-        }
-    }
-
+public final class PromiseTest extends Checks {
     private static void newObject() {
         SmallBoard x = new SmallBoard();
         boardIs("1 new", x);
@@ -284,35 +239,6 @@ public final class PromiseTest {
         play("8 triangle", x, 0, 1, 35, 34, 1, 6, 34, 35, 6, 0);
         play("8 triangle again", x, 35, 34, 0, 1, 34, 35, 1, 6, 35, 34, 6, 0, 34, 35);
         due("8 each side's positions count by themselves", x.result(), 0);
-    }
-
-    private static int onLap(int[] lap, int at) {
-        return lap[at % lap.length];
-    }
-
-    /**
-     * The first 'moves' moves of a game of kings that walk along the rows at the ends, where side 0's
-     * pawns make the moves 'pawnMoves' (0 is the game's first one). No position stands twice in it.
-     */
-    private static void longGame(String what, SmallBoard x, int side, int moves, int... pawnMoves) {
-        int[] lapOfZero = {0, 1, 2, 3, 4, 5, 11, 10, 9, 8, 7, 6};
-        int[] lapOfOne = {35, 34, 33, 32, 31, 30, 31, 32, 33, 34};
-        int[] pawns = {12, 14, 17};
-        int atZero = 0;
-        int atOne = 0;
-        int pawn = 0;
-        for (int i = 0; i < moves; i++) {
-            if (pawn < pawnMoves.length && pawnMoves[pawn] == i) {
-                play(what, x, pawns[pawn], pawns[pawn] + 6);
-                pawn++;
-            } else if ((i + side) % 2 == 0) {
-                play(what, x, onLap(lapOfZero, atZero), onLap(lapOfZero, atZero + 1));
-                atZero++;
-            } else {
-                play(what, x, onLap(lapOfOne, atOne), onLap(lapOfOne, atOne + 1));
-                atOne++;
-            }
-        }
     }
 
     private static void resultOfQuietMoves() {
@@ -727,9 +653,6 @@ public final class PromiseTest {
         best();
         mate();
         orderAndLimits();
-        System.out.println(wrong == 0 ? "all answers are as due" : wrong + " answers are not as due");
-        if (wrong != 0) {
-            System.exit(1);
-        }
+        end();
     }
 }
