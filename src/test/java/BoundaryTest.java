@@ -1,7 +1,5 @@
 /** The boundary cases that the promises 1 to 20 name; each test quotes the sentence it stands for. */
 public final class BoundaryTest extends Checks {
-    private static final int[] ANY_NUMBERS = {MIN, MIN + 1, -5, -1, 0, 1, 2, 3, 4, 35, 36, 64, 1 << 26, MAX};
-
     // ---- Promise 1
 
     private static void newObject() {
@@ -381,6 +379,20 @@ public final class BoundaryTest extends Checks {
 
     // ---- Promise 6
 
+    private static void moveMoves() {
+        sentence("Makes a move of the side to move.");
+        SmallBoard x = begun(0, 0, 6, 35, 14, 14, 2, 21, 10);
+        due("knight of side 0", x.move(14, 25), 0);
+        boardIs("after one move", x, 0, 6, 35, 14, 25, 2, 21, 10);
+        due("turn of side 1", x.turn(), 1);
+        due("knight of side 1", x.move(21, 10), 0);
+        boardIs("after two moves", x, 0, 6, 35, 14, 25, 2, 10, 10);
+        due("turn of side 0", x.turn(), 0);
+        due("side 1's king", x.move(35, 34), -3);
+        boardIs("after a refused move", x, 0, 6, 35, 14, 25, 2, 10, 10);
+        due("made", x.stop(), 2);
+    }
+
     private static void moveWithoutGame() {
         sentence("No game is going on: -1; it is over: -2; there is no such legal move: -3.");
         SmallBoard x = with(0, 6, 35, 14);
@@ -388,7 +400,13 @@ public final class BoundaryTest extends Checks {
         x.begin(0);
         x.stop();
         due("stopped", x.move(0, 1), -1);
+        due("stopped, no such square", x.move(-1, 36), -1);
         boardIs("nothing moved", x, 0, 6, 35, 14);
+        for (int way = 1; way <= 5; way++) {
+            x = over(way);
+            x.stop();
+            due("stopped when over by " + way, x.move(0, 1), -1);
+        }
     }
 
     private static void moveWhenOver() {
@@ -824,6 +842,10 @@ public final class BoundaryTest extends Checks {
         for (int depth = 1; depth <= 3; depth++) {
             due("mated, best(" + depth + ")", mated().best(depth), -3);
             due("no legal move, best(" + depth + ")", stalemated().best(depth), -3);
+            SmallBoard y = cornered();
+            due("before the mate, best(" + depth + ")", y.best(depth) > 0);
+            y.move(16, 4);
+            due("after it, best(" + depth + ")", y.best(depth), -3);
         }
     }
 
@@ -914,6 +936,7 @@ public final class BoundaryTest extends Checks {
         stopWhenOver();
         stopWithoutGame();
         stopAnswers();
+        moveMoves();
         moveWithoutGame();
         moveWhenOver();
         moveWithNoSquare();

@@ -6,6 +6,7 @@ class Checks {
     static final int[] WRONG_SQUARES = {-1, 36, -36, 63, 64, 1 << 26, MIN, MIN + 1, MAX};
     static final int[] WRONG_SIDES = {-1, 2, 8, 256, MIN, MAX};
     static final int[] WRONG_PIECES = {-1, 7, 8, 15, 16, 22, -8, -2, 1 << 26, MIN, MIN + 1, MAX};
+    static final int[] ANY_NUMBERS = {MIN, MIN + 1, -5, -1, 0, 1, 2, 3, 4, 7, 14, 35, 36, 64, 1 << 26, MAX};
     static final int[] PIECES = {1, 2, 3, 4, 5, 6, 9, 10, 11, 12, 13, 14};
 
     private static final int MOST_TOLD = 40;
@@ -57,6 +58,28 @@ class Checks {
         SmallBoard x = with(squaresAndPieces);
         due("begun: begin", x.begin(side) >= 0);
         return x;
+    }
+
+    /** A game with kings in corners where neither is in check; they keep off the square 'free'. */
+    static SmallBoard amongKings(int side, int free, int... squaresAndPieces) {
+        int[] corners = {0, 5, 30, 35};
+        for (int i = 0; i < 16; i++) {
+            int zero = corners[i / 4];
+            int one = corners[i % 4];
+            SmallBoard x = with(squaresAndPieces);
+            boolean apart = zero != one && zero != free && one != free;
+            if (!apart || x.pieceAt(zero) != 0 || x.pieceAt(one) != 0) {
+                continue;
+            }
+            x.put(zero, 6);
+            x.put(one, 14);
+            if (x.attackers(zero, 1) == 0 && x.attackers(one, 0) == 0) {
+                due("begin among kings", x.begin(side) >= 0);
+                return x;
+            }
+        }
+        due("corners for the kings are found", false);
+        return new SmallBoard();
     }
 
     static void boardIs(String what, SmallBoard x, int... squaresAndPieces) {

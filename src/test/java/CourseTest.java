@@ -148,6 +148,27 @@ public final class CourseTest extends Checks {
         due("rook and queen are back for the first time", x.result(), 0);
     }
 
+    /**
+     * A board stands twice; then the rook takes the knight in the corner and comes back, so that the
+     * third board differs from the others in the corner alone.
+     */
+    private static void otherInCornerAlone(int corner, int rook, int king, int other) {
+        SmallBoard x = begun(0, corner, 10, rook, 4, king, 6, other, 14);
+        play("a round", x, king, king + 1, other, other + 6, king + 1, king, other + 6, other);
+        due("the rook takes the knight", x.move(rook, corner), 10);
+        play("and comes back", x, other, other + 6, corner, rook, other + 6, other);
+        boardIs("all but the knight", x, rook, 4, king, 6, other, 14);
+        due("the first time without the knight on " + corner, x.result(), 0);
+    }
+
+    private static void otherOnOneSquare() {
+        sentence("the same pieces on the same squares");
+        otherInCornerAlone(0, 3, 31, 17);
+        otherInCornerAlone(5, 2, 30, 12);
+        otherInCornerAlone(30, 33, 3, 17);
+        otherInCornerAlone(35, 32, 3, 12);
+    }
+
     // ---- Way 4
 
     private static void twentyMoves() {
@@ -479,6 +500,10 @@ public final class CourseTest extends Checks {
                 due("side 1 to move, " + mine + " and " + other, x.value(0), worth[other] - worth[mine]);
             }
         }
+        for (int square = 0; square < 36; square++) {
+            due("knight on " + square, amongKings(0, -1, square, 2).value(0), 3);
+            due("knight of side 1 on " + square, amongKings(0, -1, square, 10).value(0), -3);
+        }
         due("most", begun(0, 0, 6, 35, 14, 19, 5, 16, 5, 20, 5, 15, 5).value(0), 36);
         due("least", begun(1, 0, 6, 35, 14, 19, 5, 16, 5).value(0), -18);
     }
@@ -536,6 +561,7 @@ public final class CourseTest extends Checks {
         thirdTimeOfOtherGame();
         otherSideToMove();
         samePieces();
+        otherOnOneSquare();
         twentyMoves();
         twentyMovesOfOtherGame();
         captureStartsAnew();

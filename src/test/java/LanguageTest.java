@@ -46,9 +46,25 @@ public final class LanguageTest {
         holds("the class is public and final",
             SmallBoard.class.getModifiers() == (Modifier.PUBLIC | Modifier.FINAL));
         holds("one constructor", SmallBoard.class.getConstructors().length == 1);
+    }
+
+    private static void fields() {
+        int kept = 0;
         for (Field field : SmallBoard.class.getDeclaredFields()) {
-            holds("private: " + field.getName(), Modifier.isPrivate(field.getModifiers()));
+            int modifiers = field.getModifiers();
+            Class<?> type = field.getType();
+            Class<?> held = type.isArray() ? type.getComponentType() : type;
+            holds("rule 1: private: " + field.getName(), Modifier.isPrivate(modifiers));
+            holds("rule 2: numbers, booleans or one-dimensional arrays of them: " + field.getName(),
+                held.isPrimitive() && held != float.class && held != double.class);
+            if (Modifier.isStatic(modifiers)) {
+                holds("rule 5: a constant: " + field.getName(),
+                    Modifier.isFinal(modifiers) && (type == int.class || type == long.class));
+            } else {
+                kept++;
+            }
         }
+        holds("rule 10: some forty fields at most, not " + kept, kept <= 40);
     }
 
     private static void words(String text) {
@@ -117,6 +133,7 @@ public final class LanguageTest {
 
     public static void main(String[] args) throws Exception {
         face();
+        fields();
         String text = Files.readString(Path.of(SOURCE))
             .replaceAll("(?s)/\\*.*?\\*/", "").replaceAll("//[^\n]*", "");
         words(text);

@@ -223,13 +223,12 @@ public final class RefusalTest extends Checks {
 
     private static void refusedMoves() {
         sentence("A refused call changes nothing.");
-        int notOver = -3;
-        refused(IN_GAME, "move(0, 0)", notOver, x -> x.move(0, 0));
-        refused(IN_GAME, "move(36, 1)", notOver, x -> x.move(36, 1));
-        refused(IN_GAME, "move(0, -1)", notOver, x -> x.move(0, -1));
-        refused(IN_GAME, "move(20, 32)", notOver, x -> x.move(20, 32));
-        refused(only(IN_GAME, 3), "a king that stays in check", notOver, x -> x.move(6, 7));
-        refused(only(IN_GAME, 3), "a rook that leaves it in check", notOver, x -> x.move(11, 5));
+        refused(IN_GAME, "move(0, 0)", -3, x -> x.move(0, 0));
+        refused(IN_GAME, "move(36, 1)", -3, x -> x.move(36, 1));
+        refused(IN_GAME, "move(0, -1)", -3, x -> x.move(0, -1));
+        refused(IN_GAME, "move(20, 32)", -3, x -> x.move(20, 32));
+        refused(only(IN_GAME, 3), "a king that stays in check", -3, x -> x.move(6, 7));
+        refused(only(IN_GAME, 3), "a rook that leaves it in check", -3, x -> x.move(11, 5));
         refused(WHEN_OVER, "move(0, 1)", -2, x -> x.move(0, 1));
         refused(WHEN_OVER, "move(36, 1)", -2, x -> x.move(36, 1));
         refused(only(IN_GAME, 0, 1, 2), "undo()", -2, x -> x.undo());
@@ -283,6 +282,29 @@ public final class RefusalTest extends Checks {
         }
     }
 
+    /** Rule 7 of LANGUAGE.md: a call that throws would end this test. */
+    private static void anyNumbersInAnyState(State[] all) {
+        sentence("No call may ever throw or fail to end, for any arguments in any state");
+        for (State state : all) {
+            for (int a : ANY_NUMBERS) {
+                SmallBoard x = state.maker.get();
+                for (int b : ANY_NUMBERS) {
+                    due("attackers(" + a + ", " + b + ")", x.attackers(a, b) >= -1);
+                    due("move(" + a + ", " + b + ")", x.move(a, b) >= -3);
+                    due("put(" + a + ", " + b + ")", x.put(a, b) >= -5);
+                }
+                due("pieceAt(" + a + ")", x.pieceAt(a) >= -1);
+                due("moveAt(" + a + ")", x.moveAt(a) >= -2);
+                due("mobile(" + a + ")", x.mobile(a) >= -1);
+                due("count(" + a + ")", x.count(a) >= -2);
+                due("value(" + a + ")", x.value(a) >= -5000);
+                due("best(" + a + ")", x.best(a) >= -3);
+                due("mate(" + a + ")", x.mate(a) >= -2);
+                due("begin(" + a + ")", x.begin(a) >= -4);
+            }
+        }
+    }
+
     public static void main(String[] args) {
         refusedWithoutGame();
         refusedAsAskedWithoutGame();
@@ -296,6 +318,9 @@ public final class RefusalTest extends Checks {
         lookingAheadChangesNothing(IN_GAME);
         lookingAheadChangesNothing(WHEN_OVER);
         undoChangesAllBack();
+        anyNumbersInAnyState(WITHOUT_GAME);
+        anyNumbersInAnyState(IN_GAME);
+        anyNumbersInAnyState(WHEN_OVER);
         end();
     }
 }

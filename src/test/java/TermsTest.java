@@ -4,28 +4,6 @@ public final class TermsTest extends Checks {
         boolean covers(int rows, int columns);
     }
 
-    /** A game with kings in corners where neither is in check; they keep off the square 'free'. */
-    private static SmallBoard amongKings(int side, int free, int... squaresAndPieces) {
-        int[] corners = {0, 5, 30, 35};
-        for (int i = 0; i < 16; i++) {
-            int zero = corners[i / 4];
-            int one = corners[i % 4];
-            SmallBoard x = with(squaresAndPieces);
-            boolean apart = zero != one && zero != free && one != free;
-            if (!apart || x.pieceAt(zero) != 0 || x.pieceAt(one) != 0) {
-                continue;
-            }
-            x.put(zero, 6);
-            x.put(one, 14);
-            if (x.attackers(zero, 1) == 0 && x.attackers(one, 0) == 0) {
-                due("begin among kings", x.begin(side) >= 0);
-                return x;
-            }
-        }
-        due("corners for the kings are found", false);
-        return new SmallBoard();
-    }
-
     // ---- What it is
 
     private static void lastOfManyMovesAndUndos() {
