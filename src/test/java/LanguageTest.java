@@ -77,6 +77,19 @@ public final class LanguageTest {
         }
     }
 
+    /** The rule leaves more than this; but what keeps to the plain form needs no proof that it ends. */
+    private static void loops(String text) {
+        Pattern counted = Pattern.compile("for \\(int (\\w+) = [^;]+; "
+            + "(?:\\1 < \\w+(?: && [^;|]+)?; \\1\\+\\+|\\1 >= 0; \\1 -= \\d+)\\) \\{");
+        Matcher loop = Pattern.compile("(?m)\\b(?:for|while|do)\\b.*$").matcher(text);
+        int found = 0;
+        while (loop.find()) {
+            found++;
+            holds("rule 8: a counter against a bound: " + loop.group(), counted.matcher(loop.group()).matches());
+        }
+        holds("the scan finds the loops", found > 0);
+    }
+
     private static Map<String, Set<String>> callsByMethod(String text) {
         Map<String, Set<String>> calls = new LinkedHashMap<>();
         Matcher methods = METHOD.matcher(text);
@@ -137,6 +150,7 @@ public final class LanguageTest {
         String text = Files.readString(Path.of(SOURCE))
             .replaceAll("(?s)/\\*.*?\\*/", "").replaceAll("//[^\n]*", "");
         words(text);
+        loops(text);
         Map<String, Set<String>> calls = callsByMethod(text);
         holds("the scan finds the methods", calls.size() == SmallBoard.class.getDeclaredMethods().length + 1);
         for (String name : calls.keySet()) {
