@@ -533,6 +533,26 @@ public final class BoundaryTest extends Checks {
         due("turn of side 1", x.turn(), 1);
     }
 
+    private static void undoInSecondGame() {
+        sentence("Takes the latest move back (also when the game is over; all is as before it was made).");
+        SmallBoard x = cornered();
+        play("first game", x, 16, 10, 0, 1, 10, 11);
+        due("stop", x.stop(), 3);
+        due("clear", x.clear(), 3);
+        x.put(5, 6);
+        x.put(30, 14);
+        x.put(20, 3);
+        due("second game", x.begin(1) >= 0);
+        play("second game", x, 30, 24, 5, 4, 24, 18);
+        due("undo", x.undo(), 2);
+        boardIs("before the third move", x, 4, 6, 24, 14, 20, 3);
+        due("undo", x.undo(), 1);
+        due("undo", x.undo(), 0);
+        boardIs("the beginning of the second game", x, 5, 6, 30, 14, 20, 3);
+        due("turn", x.turn(), 1);
+        due("none is left", x.undo(), -2);
+    }
+
     private static void undoAnswers() {
         sentence("Else answers how many moves are left.");
         SmallBoard x = pawnsAfter(60);
@@ -675,6 +695,17 @@ public final class BoundaryTest extends Checks {
         x = with(2, 4, 8, 4);
         due("the farther rook", x.attackers(14, 0), 1);
         due("it guards the nearer", x.attackers(8, 0), 1);
+        for (int side = 0; side < 2; side++) {
+            // The knight on 2 stands between its king and a rook, and has no legal move.
+            x = begunBy(side, 0, 6, 2, 2, 5, 12, 35, 14);
+            due("the pinned knight can't move", x.mobile(seenBy(side, 2)), 0);
+            due("and yet it attacks", x.attackers(seenBy(side, 13), side), 1);
+            // The king on 0 is in check, which the knight on 33 can't end.
+            x = begunBy(side, 0, 6, 33, 2, 5, 12, 35, 14);
+            due("in check", x.check(), 1);
+            due("the knight can't help", x.mobile(seenBy(side, 33)), 0);
+            due("and yet it attacks", x.attackers(seenBy(side, 22), side), 1);
+        }
     }
 
     // ---- Promises 13 to 15
@@ -801,6 +832,26 @@ public final class BoundaryTest extends Checks {
         due("count(3)", x.count(3), 3 * (5 + 5 + 8));
     }
 
+    private static void longestWalks() {
+        sentence("There are at most 6 pieces on the board.");
+        SmallBoard x = game(0, 52, 3, 5, 7, 6, 14, 5, 22, 5, 27, 13, 31, 14);
+        due("count(2)", x.count(2), 699);
+        due("count(3)", x.count(3), 24432);
+        due("value(3)", x.value(3), 27);
+        due("best(3)", x.best(3), 64 * 3 + 27);
+        due("mate(2)", x.mate(2), 1);
+        x = game(0, 44, 3, 5, 10, 5, 11, 6, 23, 5, 25, 13, 31, 14);
+        due("count(2)", x.count(2), 604);
+        due("count(3)", x.count(3), 21304);
+        due("value(2)", x.value(2), 18);
+        due("value(3)", x.value(3), 27);
+        due("best(3)", x.best(3), 64 * 3 + 21);
+        due("mate(2)", x.mate(2), 0);
+        x = game(0, 35, 15, 5, 24, 5, 25, 5, 26, 13, 30, 6, 35, 14);
+        due("mate(1)", x.mate(1), 0);
+        due("mate(2) found late", x.mate(2), 1);
+    }
+
     private static void valueDepths() {
         sentence("The value with a depth; depth is not 0 to 3: -4000.");
         SmallBoard x = game(0, 3, 0, 6, 35, 14);
@@ -828,7 +879,12 @@ public final class BoundaryTest extends Checks {
         // Of two captures the greater; of two ways of the same the lesser number.
         due("the queen, not the rook", begun(0, 0, 6, 33, 14, 14, 4, 17, 12, 26, 13).best(1), 64 * 14 + 26);
         due("two rooks can take", begun(0, 0, 6, 35, 14, 13, 4, 27, 4, 15, 10).best(1), 64 * 13 + 15);
+        due("side 1's rooks can take", begun(1, 0, 6, 35, 14, 22, 12, 8, 12, 20, 2).best(1), 64 * 8 + 20);
         due("the only move", game(1, 1, 1, 14, 13, 6, 14, 4).best(3), 64);
+        for (int depth = 1; depth <= 3; depth++) {
+            // Rook 1 and rook 5 face each other: to take (69) or to go off the row, from 71 on, is as good.
+            due("rooks, depth " + depth, begun(0, 1, 4, 5, 12, 10, 14, 12, 6).best(depth), 69);
+        }
     }
 
     private static void bestDepths() {
@@ -873,6 +929,19 @@ public final class BoundaryTest extends Checks {
         matesAre("without a move itself", stalemated(), 0, 0);
         matesAre("to be mated itself", game(1, 1, 1, 14, 13, 6, 14, 4), 0, 0);
         matesAre("all answers but one allow it", begun(0, 5, 10, 14, 6, 15, 5, 31, 14), 0, 0);
+    }
+
+    private static void mateOutOfCheck() {
+        sentence("1 if the side to move can force, whatever the other side answers, that after at most n of its own "
+            + "moves the other side is in check and has no legal move; else 0.");
+        for (int side = 0; side < 2; side++) {
+            SmallBoard x = begunBy(side, 0, 14, 3, 12, 5, 6, 9, 4, 10, 5);
+            due("in check", x.check(), 1);
+            matesAre("taking the rook that gives check", x, 1, 1);
+            x = begunBy(side, 0, 14, 19, 4, 21, 13, 26, 6, 33, 4);
+            due("in check", x.check(), 1);
+            matesAre("a check to be met first", x, 0, 1);
+        }
     }
 
     private static void matesAre(String what, SmallBoard x, int inOne, int inTwo) {
@@ -945,6 +1014,7 @@ public final class BoundaryTest extends Checks {
         undoWithoutGame();
         undoWhenOver();
         undoGivesBack();
+        undoInSecondGame();
         undoAnswers();
         result();
         overGoesOn();
@@ -959,11 +1029,13 @@ public final class BoundaryTest extends Checks {
         mobileOfNothing();
         countDepths();
         countRows();
+        longestWalks();
         valueDepths();
         bestOfEquals();
         bestDepths();
         mateNumbers();
         mateForced();
+        mateOutOfCheck();
         noMoveWithoutCheckIsNoMate();
         noGameFirst();
         end();

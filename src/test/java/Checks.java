@@ -82,6 +82,21 @@ class Checks {
         return new SmallBoard();
     }
 
+    /** A square as the sides see it from their own ends of the board: the same for side 0, turned for side 1. */
+    static int seenBy(int side, int square) {
+        return side == 0 ? square : 35 - square;
+    }
+
+    /** A game just begun by the side, with a board that is told as if that were side 0. */
+    static SmallBoard begunBy(int side, int... squaresAndPieces) {
+        int[] turned = squaresAndPieces.clone();
+        for (int i = 0; i < turned.length; i += 2) {
+            turned[i] = seenBy(side, turned[i]);
+            turned[i + 1] ^= 8 * side;
+        }
+        return begun(side, turned);
+    }
+
     static void boardIs(String what, SmallBoard x, int... squaresAndPieces) {
         int[] want = new int[36];
         for (int i = 0; i < squaresAndPieces.length; i += 2) {

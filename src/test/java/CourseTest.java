@@ -81,6 +81,10 @@ public final class CourseTest extends Checks {
         due("a pinned knight", game(1, 0, 0, 14, 1, 10, 3, 4, 13, 6).result(), 2);
         due("a pawn that can move", game(1, 1, 0, 14, 8, 5, 14, 6, 27, 9).result(), 0);
         due("a knight that can move", game(1, 2, 0, 14, 8, 5, 14, 6, 35, 10).result(), 0);
+        for (int side = 0; side < 2; side++) {
+            due("side " + side, begunBy(side, 0, 6, 8, 13, 14, 14).result(), 2);
+            due("side " + side + " in check", begunBy(side, 0, 6, 7, 13, 14, 14).result(), 1);
+        }
     }
 
     // ---- Way 3
@@ -92,6 +96,38 @@ public final class CourseTest extends Checks {
         due("the move before", roundsAfter(7).result(), 0);
         due("third time", roundsAfter(8).result(), 3);
         due("no more moves", roundsAfter(8).move(0, 1), -2);
+    }
+
+    /** Both kings, from the corners 0 and 35, come back to them in so many moves each. */
+    private static void roundOf(int length, SmallBoard x, int side) {
+        int[][] laps = {{0, 1}, {0, 1, 6}, {0, 1, 7, 6}, {0, 1, 8, 7, 6}, {0, 1, 2, 8, 7, 6}, {0, 1, 2, 9, 8, 7, 6},
+            {0, 1, 2, 3, 9, 8, 7, 6}};
+        int[] lap = laps[length - 2];
+        for (int i = 0; i < length; i++) {
+            int from = lap[i];
+            int to = lap[(i + 1) % length];
+            if (side == 0) {
+                play("round of " + length, x, from, to, 35 - from, 35 - to);
+            } else {
+                play("round of " + length, x, 35 - from, 35 - to, from, to);
+            }
+        }
+    }
+
+    private static void thirdTimeAfterRoundsOfAnyLength() {
+        sentence("stands for the third time or more since the game began");
+        for (int first = 2; first <= 8; first++) {
+            // Up to the 20th move, where way 4 applies too, but later.
+            for (int second = 2; first + second <= 10; second++) {
+                for (int side = 0; side < 2; side++) {
+                    SmallBoard x = game(side, 3, 0, 6, 35, 14);
+                    roundOf(first, x, side);
+                    due("second time after a round of " + first, x.result(), 0);
+                    roundOf(second, x, side);
+                    due("third time after rounds of " + first + " and " + second, x.result(), 3);
+                }
+            }
+        }
     }
 
     private static void beginningCounts() {
@@ -117,6 +153,13 @@ public final class CourseTest extends Checks {
         due("second time in this game", x.result(), 0);
         play("a round", x, 0, 1, 35, 34, 1, 0, 34, 35);
         due("third time in this game", x.result(), 3);
+        x.stop();
+        due("another beginning", x.put(2, 10), 0);
+        due("begin", x.begin(0) > 0);
+        play("a round", x, 0, 1, 35, 34, 1, 0, 34, 35);
+        due("second time of the other beginning", x.result(), 0);
+        play("a round", x, 0, 1, 35, 34, 1, 0, 34, 35);
+        due("third time of the other beginning", x.result(), 3);
     }
 
     private static void otherSideToMove() {
@@ -146,6 +189,18 @@ public final class CourseTest extends Checks {
         changePlaces(x);
         boardIs("rook and queen are back", x, 0, 6, 35, 14, 8, 4, 9, 5);
         due("rook and queen are back for the first time", x.result(), 0);
+    }
+
+    private static void piecesOfTheSameSide() {
+        sentence("the same pieces on the same squares");
+        SmallBoard x = begun(0, 5, 6, 35, 14, 13, 2, 15, 10);
+        play("the knights of the two sides change places", x, 13, 26, 15, 2, 26, 15, 2, 13);
+        boardIs("changed", x, 5, 6, 35, 14, 13, 10, 15, 2);
+        play("and change back", x, 15, 26, 13, 2, 26, 13, 2, 15);
+        boardIs("back", x, 5, 6, 35, 14, 13, 2, 15, 10);
+        due("in between the knights on 13 and 15 were of the other sides", x.result(), 0);
+        play("half the way again", x, 13, 26, 15, 2);
+        due("half the way is the same each time", x.result(), 3);
     }
 
     /**
@@ -197,45 +252,55 @@ public final class CourseTest extends Checks {
         due("over no more", x.result(), 0);
     }
 
-    /** 19 quiet moves, after which king 31 can capture the bishop on 30. */
-    private static SmallBoard beforeCapture() {
-        int[] zero = {0, 1, 2, 3, 4, 5, 11, 10, 9, 8, 7};
-        int[] one = {35, 34, 35, 34, 35, 29, 34, 33, 32, 31};
-        SmallBoard x = begun(0, 0, 6, 35, 14, 30, 3);
-        for (int i = 0; i < 19; i++) {
-            int[] way = i % 2 == 0 ? zero : one;
-            play("before the capture", x, way[i / 2], way[i / 2 + 1]);
+    /** Moves of the side that begins and of the other by turns, told as if side 0 began. */
+    private static void playBy(int side, SmallBoard x, int moves, int[] own, int[] others) {
+        for (int i = 0; i < moves; i++) {
+            int[] way = i % 2 == 0 ? own : others;
+            play("by turns", x, seenBy(side, way[i / 2]), seenBy(side, way[i / 2 + 1]));
         }
+    }
+
+    /** 19 quiet moves, after which the king of the side that did not begin, on 31, can capture the bishop on 30. */
+    private static SmallBoard beforeCapture(int side) {
+        int[] own = {0, 1, 2, 3, 4, 5, 11, 10, 9, 8, 7};
+        int[] others = {35, 34, 35, 34, 35, 29, 34, 33, 32, 31};
+        SmallBoard x = begunBy(side, 0, 6, 35, 14, 30, 3);
+        playBy(side, x, 19, own, others);
         return x;
+    }
+
+    private static int capture(int side, SmallBoard x) {
+        return x.move(seenBy(side, 31), seenBy(side, 30));
     }
 
     private static void captureStartsAnew() {
         sentence("without a capture or a move of a pawn, counted from the last such move on");
-        SmallBoard x = beforeCapture();
-        due("the 20th is a capture", x.move(31, 30), 3);
-        due("not over", x.result(), 0);
-        int[] zero = {7, 6, 0, 1, 2, 3, 4, 5, 11, 10, 9};
-        int[] one = {30, 31, 32, 33, 34, 35, 29, 28, 27, 26, 25};
-        for (int i = 0; i < 9; i++) {
-            play("after the capture", x, zero[i], zero[i + 1], one[i], one[i + 1]);
+        for (int side = 0; side < 2; side++) {
+            SmallBoard x = beforeCapture(side);
+            due("the 20th is a capture by side " + (1 - side), capture(side, x), 3 + 8 * side);
+            due("not over", x.result(), 0);
+            int[] own = {7, 6, 0, 1, 2, 3, 4, 5, 11, 10, 9};
+            int[] others = {30, 31, 32, 33, 34, 35, 29, 28, 27, 26, 25};
+            playBy(side, x, 19, own, others);
+            due("19 after the capture", x.result(), 0);
+            due("20th after the capture", x.move(seenBy(side, 26), seenBy(side, 25)), 0);
+            due("20 after the capture", x.result(), 4);
         }
-        play("after the capture", x, zero[9], zero[10]);
-        due("19 after the capture", x.result(), 0);
-        due("20th after the capture", x.move(one[9], one[10]), 0);
-        due("20 after the capture", x.result(), 4);
     }
 
     private static void captureTakenBack() {
         sentence("Moves that were taken back are not counted.");
-        SmallBoard x = beforeCapture();
-        due("capture", x.move(31, 30), 3);
-        due("undo", x.undo(), 19);
-        due("19 quiet moves again", x.result(), 0);
-        due("a quiet move instead", x.move(31, 32), 0);
-        due("20 quiet moves", x.result(), 4);
-        due("undo", x.undo(), 19);
-        due("the capture after all", x.move(31, 30), 3);
-        due("not over", x.result(), 0);
+        for (int side = 0; side < 2; side++) {
+            SmallBoard x = beforeCapture(side);
+            due("capture by side " + (1 - side), capture(side, x), 3 + 8 * side);
+            due("undo", x.undo(), 19);
+            due("19 quiet moves again", x.result(), 0);
+            due("a quiet move instead", x.move(seenBy(side, 31), seenBy(side, 32)), 0);
+            due("20 quiet moves", x.result(), 4);
+            due("undo", x.undo(), 19);
+            due("the capture after all", capture(side, x), 3 + 8 * side);
+            due("not over", x.result(), 0);
+        }
     }
 
     private static void pawnStartsAnew() {
@@ -534,6 +599,12 @@ public final class CourseTest extends Checks {
         x = begun(0, 6, 1, 7, 4, 10, 11, 12, 14, 25, 6);
         due("no move is left, depth 2", x.value(2), 0);
         due("best of it", x.best(2), 458);
+        // King 1 must leave its pawn alone or leave king 0 without a move, so king 0 goes ahead of the pawn.
+        for (int side = 0; side < 2; side++) {
+            x = begunBy(side, 1, 6, 8, 9, 13, 14);
+            values("no move is left to its own side", x, -1, -1, -1, 0);
+            due("best of it", x.best(3), 64 * seenBy(side, 1) + seenBy(side, 2));
+        }
     }
 
     private static void valueIsGreatest() {
@@ -551,16 +622,59 @@ public final class CourseTest extends Checks {
         due("depth 1 makes a queen", x.value(1), 9);
     }
 
+    private static void values(String what, SmallBoard x, int... byDepth) {
+        for (int depth = 0; depth < byDepth.length; depth++) {
+            due(what + ": value(" + depth + ")", x.value(depth), byDepth[depth]);
+        }
+    }
+
+    private static void counts(String what, SmallBoard x, int... byDepth) {
+        for (int depth = 0; depth < byDepth.length; depth++) {
+            due(what + ": count(" + depth + ")", x.count(depth), byDepth[depth]);
+        }
+    }
+
+    private static void queensAhead() {
+        sentence("A pawn that comes to row 5 (side 0) or row 0 (side 1) becomes a queen of its side.");
+        for (int side = 0; side < 2; side++) {
+            String what = "side " + side + " to move, ";
+            values(what + "a queen by its first move", begunBy(side, 0, 6, 35, 14, 24, 1), 1, 9, 9);
+            SmallBoard x = begunBy(side, 0, 6, 35, 14, 18, 1);
+            values(what + "a queen by its second move", x, 1, 1, 1, 9);
+            due(what + "best(3)", x.best(3), 64 * seenBy(side, 18) + seenBy(side, 24));
+            values(what + "a queen by the answer", begunBy(side, 24, 6, 34, 14, 11, 9), -1, -1, -9, -9);
+            // The new queen gives check, which leaves fewer answers and has more moves of its own.
+            counts(what + "a queen by its first move", begunBy(side, 5, 6, 9, 14, 27, 1), 1, 2, 9, 96);
+            counts(what + "a queen by the answer", begunBy(side, 16, 6, 4, 14, 8, 9), 1, 5, 26, 132);
+        }
+    }
+
+    private static void queensInMates() {
+        sentence("A pawn that comes to row 5 (side 0) or row 0 (side 1) becomes a queen of its side.");
+        for (int side = 0; side < 2; side++) {
+            // A queen on 31 drives the king from 0 to 6, and the next one on 30 mates it there.
+            SmallBoard x = begunBy(side, 0, 14, 24, 1, 25, 1, 28, 6);
+            due("not yet in one", x.mate(1), 0);
+            due("two queens mate", x.mate(2), 1);
+            x = begunBy(side, 6, 4, 14, 9, 21, 6, 35, 14);
+            due("the pawn on 14 can't help its king", x.mate(2), 1);
+            x = begunBy(side, 6, 4, 8, 9, 21, 6, 35, 14);
+            due("the pawn on 8 becomes a queen and can", x.mate(2), 0);
+        }
+    }
+
     public static void main(String[] args) {
         sidesMoveByTurns();
         mate();
         checkAlone();
         noLegalMove();
         thirdTime();
+        thirdTimeAfterRoundsOfAnyLength();
         beginningCounts();
         thirdTimeOfOtherGame();
         otherSideToMove();
         samePieces();
+        piecesOfTheSameSide();
         otherOnOneSquare();
         twentyMoves();
         twentyMovesOfOtherGame();
@@ -583,6 +697,8 @@ public final class CourseTest extends Checks {
         valueWithDepthNone();
         valueOfEnds();
         valueIsGreatest();
+        queensAhead();
+        queensInMates();
         end();
     }
 }

@@ -462,7 +462,7 @@ public final class TermsTest extends Checks {
 
     private static void pawnIsStopped() {
         sentence("and it moves also to the square one row ahead if that has no piece");
-        for (int piece : new int[] {2, 3, 4, 5, 10, 11, 12, 13}) {
+        for (int piece : new int[] {1, 2, 3, 4, 5, 9, 10, 11, 12, 13}) {
             SmallBoard x = amongKings(0, 27, 15, 1, 21, piece);
             due("pawn ahead onto " + piece, x.move(15, 21), -3);
             due("pawn past " + piece, x.move(15, 27), -3);
@@ -471,6 +471,20 @@ public final class TermsTest extends Checks {
             due("pawn of 1 ahead onto " + piece, x.move(21, 15), -3);
             due("pawn of 1 past " + piece, x.move(21, 9), -3);
             due("pawn of 1 is stopped by " + piece, x.mobile(21), 0);
+        }
+    }
+
+    private static void pawnsSideBySide() {
+        sentence("but a pawn moves to an attacked square only if it captures there");
+        for (int side = 0; side < 2; side++) {
+            int pawn = seenBy(side, 20);
+            SmallBoard x = begunBy(side, 0, 6, 35, 14, 20, 1, 21, 9);
+            due("aslant behind a pawn", x.move(pawn, seenBy(side, 27)), -3);
+            due("only ahead", x.mobile(pawn), 1);
+            x = begunBy(side, 0, 6, 35, 14, 14, 1, 27, 9);
+            play("the other pawn comes beside it", x, seenBy(side, 14), pawn, seenBy(side, 27), seenBy(side, 21));
+            due("aslant behind a pawn that just came", x.move(pawn, seenBy(side, 27)), -3);
+            due("only ahead", x.mobile(pawn), 1);
         }
     }
 
@@ -621,6 +635,30 @@ public final class TermsTest extends Checks {
         due("a pawn that would become a queen", x.move(25, 31), -3);
     }
 
+    /** How many moves each kind, from pawn to queen, has on 14 between its king and an attacker along a line. */
+    private static void pinnedOn14(String line, int king, int attacker, int kindOfAttacker, int... due) {
+        for (int side = 0; side < 2; side++) {
+            for (int kind = 1; kind <= 5; kind++) {
+                SmallBoard x = begunBy(side, 33, 14, king, 6, 14, kind, attacker, kindOfAttacker);
+                String what = "kind " + kind + " of side " + side + " pinned " + line;
+                due(what, x.mobile(seenBy(side, 14)), due[kind - 1]);
+                due(what + ": no check", x.check(), 0);
+            }
+        }
+    }
+
+    private static void pinnedOnEachLine() {
+        sentence("A move is LEGAL if after it the side that made it is not in check.");
+        for (int rook = 12; rook <= 13; rook++) {
+            pinnedOn14("on its row", 12, 17, rook, 0, 0, 0, 4, 4);
+            pinnedOn14("on its column", 2, 32, rook, 1, 0, 0, 4, 4);
+        }
+        for (int bishop = 11; bishop <= 13; bishop += 2) {
+            pinnedOn14("on a diagonal", 0, 35, bishop, 0, 0, 4, 0, 4);
+            pinnedOn14("on the other diagonal", 24, 4, bishop, 0, 0, 3, 0, 3);
+        }
+    }
+
     private static void numbers() {
         sentence("The NUMBER of a move is 64 * from + to.");
         SmallBoard x = begun(0, 0, 6, 35, 14);
@@ -664,6 +702,7 @@ public final class TermsTest extends Checks {
         pawnMovesAslantOnlyToCapture();
         pawnMovesAhead();
         pawnIsStopped();
+        pawnsSideBySide();
         becomesQueen();
         becomesQueenByCapture();
         becomesQueenNoSooner();
@@ -673,6 +712,7 @@ public final class TermsTest extends Checks {
         guardedPieces();
         checkMustBeMet();
         pinnedPieces();
+        pinnedOnEachLine();
         numbers();
         end();
     }
